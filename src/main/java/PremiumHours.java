@@ -5,6 +5,8 @@ public final class PremiumHours {
     public static final int NONE = -1;
 
     private static final int NOT_WORKED = -2;
+    /** The least int, in digits: LANGUAGE.md lists functions of Integer, no constants of it. */
+    private static final int REFUSED = -2147483648;
     private static final int WORKERS = 4;
     private static final int PUNCHES = 60;
     private static final int DAYS = 28;
@@ -328,7 +330,7 @@ public final class PremiumHours {
     public int would(int worker, int kind, int day, int minute, boolean again) {
         int moment = freeMoment(worker, kind, day, minute, again);
         if (moment == NONE) {
-            return Integer.MIN_VALUE;
+            return REFUSED;
         }
         return payWith(worker, kind, moment) - sheetOf(worker).allPay();
     }
@@ -1090,7 +1092,6 @@ public final class PremiumHours {
             for (int q = from; q < to; q++) {
                 paid[q] = NOT_WORKED;
                 came[q] = NOT_WORKED;
-                may[q] = 0;
             }
         }
 

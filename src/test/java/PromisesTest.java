@@ -7,6 +7,8 @@ public final class PromisesTest {
         newObject();
         feed();
         rulesReplace();
+        rulesForgetEarlierOnes();
+        rulesPayAnew();
         rulesFaults();
         rulesBounds();
         rulesKeepOrDropPunches();
@@ -17,6 +19,7 @@ public final class PromisesTest {
         punch();
         strike();
         undo();
+        undoBehindTheOldest();
         punchedPairs();
         punchedLongest();
         spanRounding();
@@ -51,6 +54,9 @@ public final class PromisesTest {
             due("1 span", desk.span(worker, NONE, 0), 0);
         }
         due("1 total", desk.total(), 0);
+        due("1 day", new PremiumHours().day(0, 0, -2), 0);
+        due("1 quarter", new PremiumHours().quarter(0, 0, 0), -2);
+        due("1 pay", new PremiumHours().pay(0, 0, true), 0);
         due("1 NONE", PremiumHours.NONE, -1);
     }
 
@@ -89,6 +95,37 @@ public final class PromisesTest {
         due("3 round 3", desk.count(2), 3);
     }
 
+    private static void rulesForgetEarlierOnes() {
+        PremiumHours desk = new PremiumHours();
+        for (int i = 0; i < 3; i++) {
+            Desk.tell(desk, "clock 1 1 back;holiday 3;round 3;meal 5 5;longest 3;rate 3;premium night 1 2 3 counts;");
+            due("3 told", desk.count(1), 1);
+            due("3 none told", Desk.tell(desk, "premium seventh 5;"), 1);
+            int[] due = {1, 0, 7, 0, 0, 16, 100, NONE, NONE, NONE};
+            for (int what = 0; what < due.length; what++) {
+                due("3 count " + what, desk.count(what), due[what]);
+            }
+            due("3 no counts", desk.premium(0, 2), 0);
+            due("3 no number", desk.premium(0, 3), NONE);
+            due("3 no number", desk.premium(0, 4), NONE);
+        }
+    }
+
+    private static void rulesPayAnew() {
+        PremiumHours desk = Desk.with("rate 2;");
+        Desk.work(desk, 0, 0, 0, 60);
+        Desk.work(desk, 3, 0, 0, 60);
+        due("3 total", desk.total(), 1600);
+        due("3 would", desk.would(0, 1, 0, 30, false), -400);
+        Desk.tell(desk, "rate 3;");
+        due("3 would anew", desk.would(0, 1, 0, 30, false), -600);
+        due("3 total anew", desk.total(), 2400);
+        Desk.tell(desk, "premium day 2 50;");
+        due("3 total anew", desk.total(), 2 * (40000 + 10000));
+        due("3 worth anew", desk.worth(0), 2 * 10000);
+        due("3 would anew", desk.would(0, 1, 0, 45, false), -15000);
+    }
+
     private static void fault(String text, int place, int kind) {
         due("3 " + text, Desk.tell(new PremiumHours(), text), -2 - (8 * place + kind));
     }
@@ -103,6 +140,16 @@ public final class PromisesTest {
         fault("rate 5#;", 6, 1);
         fault("raTe 5;", 0, 1);
         fault("rates 5;", 0, 1);
+        fault("sate 5;", 0, 1);
+        fault("rat 5;", 0, 1);
+        fault("premium dayz 5 5;", 8, 1);
+        fault("premium zday 5 5;", 8, 1);
+        fault("premium daya 5 5;", 8, 1);
+        fault("`rate 5;", 0, 1);
+        fault("rate`5;", 4, 1);
+        fault("rate{5;", 4, 1);
+        fault("rate 5:;", 6, 1);
+        fault("rate 5/;", 6, 1);
         fault("rate \u00e95;", 5, 1);
         fault("rate;", 4, 1);
         fault("rate 5 6;", 7, 1);
@@ -354,6 +401,26 @@ public final class PromisesTest {
         }
     }
 
+    private static void undoBehindTheOldest() {
+        PremiumHours desk = new PremiumHours();
+        Desk.work(desk, 2, 5, 600, 660);
+        for (int i = 0; i < 9; i++) {
+            desk.punch(i % 2, i % 3, 3, i, false);
+            desk.strike(2, 5, i % 2 == 0 ? 600 : 660, false);
+            desk.punch(2, i % 2 == 0 ? 0 : 1, 5, i % 2 == 0 ? 600 : 660, false);
+        }
+        due("10 16 are kept", desk.count(11), 16);
+        for (int i = 15; i >= 0; i--) {
+            due("10 undo " + i, desk.undo(), i);
+        }
+        due("10 none", desk.undo(), NONE);
+        due("10 worker 0", desk.punched(0, NONE, 0), 2);
+        due("10 worker 1", desk.punched(1, NONE, 0), 2);
+        due("10 worker 2", desk.punched(2, NONE, 0), 1);
+        due("10 the goer was struck", desk.punched(2, 0, 0), 5 * 1440 + 600);
+        due("10 the kind", desk.punched(2, 0, 1), 0);
+    }
+
     private static void roles(String kinds, String due) {
         PremiumHours desk = new PremiumHours();
         for (int k = 0; k < kinds.length(); k++) {
@@ -588,6 +655,15 @@ public final class PromisesTest {
         due("16 best", desk.counted(0, 1, false), 4);
         due("16 as they come", desk.counted(0, 1, true), 2);
         due("16 another week", desk.counted(0, 0, false), 0);
+        PremiumHours edges = new PremiumHours();
+        Desk.work(edges, 0, 6, 1425, 1439);
+        Desk.work(edges, 0, 7, 0, 30);
+        Desk.work(edges, 0, 14, 0, 45);
+        due("16 the last quarter of week 0", edges.counted(0, 0, false), 1);
+        due("16 the first quarters of week 1", edges.counted(0, 1, true), 2);
+        due("16 the first quarters of week 2", edges.counted(0, 2, false), 3);
+        due("15 the first quarters of week 1", edges.week(0, 1, -2), 2);
+        due("17 the last quarter of week 0", edges.pay(0, 0, true), 10000);
         due("16 no week", desk.counted(0, 4, false), NONE);
         due("16 no week", desk.counted(0, -1, true), NONE);
         due("16 no worker", desk.counted(4, 0, false), NONE);
@@ -688,6 +764,18 @@ public final class PromisesTest {
         due("22 no premium", desk.worth(4), NONE);
         due("22 no premium", desk.worth(-1), NONE);
         due("22 as it was", desk.total(), 2 * 2 * (400 + 50 + 60));
+        due("22 of alike trials", desk.would(0, 0, 20, 0, false), 0);
+        due("22 of alike trials", desk.worth(2), 2 * 2 * 10);
+        due("22 of alike trials", desk.would(3, 0, 20, 0, false), 0);
+        desk.undo();
+        desk.undo();
+        due("22 of alike trials", desk.would(0, 0, 20, 0, false), 0);
+        due("22 of alike trials", desk.worth(2), 2 * 10);
+        PremiumHours last = Desk.with("premium day 2 50;premium day 3 60;");
+        Desk.work(last, 3, 9, 0, 60);
+        due("22 the last worker", last.worth(1), 1000);
+        due("22 would behind worth", last.would(3, 0, 20, 0, false), 0);
+        due("22 the last worker", last.worth(0), 5000);
         PremiumHours week = Desk.with("premium day 0 10;premium week 2 100;");
         Desk.work(week, 0, 0, 0, 60);
         due("22 the best way without", week.worth(1), 100 * (200 - 40));
@@ -701,6 +789,11 @@ public final class PromisesTest {
         due("23 together", desk.together(0, 1), 3);
         due("23 together", desk.together(1, 0), 3);
         due("23 none", desk.together(0, 2), 0);
+        Desk.work(desk, 2, 0, 0, 15);
+        due("23 the first", desk.together(0, 2), 1);
+        Desk.work(desk, 2, 27, 1425, 1439);
+        Desk.work(desk, 3, 27, 1400, 1439);
+        due("23 the last", desk.together(2, 3), 1);
         due("23 alike", desk.together(1, 1), NONE);
         due("23 no worker", desk.together(0, 4), NONE);
         due("23 no worker", desk.together(-1, 0), NONE);
