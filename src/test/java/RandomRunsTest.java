@@ -20,6 +20,9 @@ public final class RandomRunsTest {
         for (int run = first; run < first + runs && !test.check.anyFailed(); run++) {
             test.run(run);
         }
+        for (int run = first; run < first + runs / 13 && !test.check.anyFailed(); run++) {
+            test.fullWeek(run);
+        }
         for (int run = first; run < first + 40 * runs && !test.check.anyFailed(); run++) {
             test.readFaulty(run);
         }
@@ -53,6 +56,40 @@ public final class RandomRunsTest {
             }
         }
         askAllWeeks("run " + seed + " at last");
+    }
+
+    /** Nearly all QUARTERS of a week, so that week PREMIUMS of large numbers come into play. */
+    private void fullWeek(int seed) {
+        start(1_000_000 + seed);
+        tell("week " + seed, random.nextBoolean() ? "longest 24;" + premiumsText() : premiumsText());
+        int monday = 7 * random.nextInt(4);
+        for (int i = random.nextInt(15); i >= 0; i--) {
+            int day = monday + random.nextInt(7);
+            int comes = random.nextInt(400);
+            int goes = comes + 300 + random.nextInt(700);
+            String where = "week " + seed + " turn " + i;
+            check.same(where, desk.punch(1, 0, day, comes, false), plain.punch(1, 0, day, comes, false));
+            check.same(where, desk.punch(1, 1, day, goes, false), plain.punch(1, 1, day, goes, false));
+        }
+        askAllWeeks("week " + seed);
+        for (int premium = 0; premium < 8; premium++) {
+            check.same("week " + seed + " worth", desk.worth(premium), plain.worth(premium));
+        }
+        for (int i = 0; i < 12; i++) {
+            int quarter = 96 * monday + random.nextInt(672);
+            int what = 2 + i % 3;
+            same("week " + seed + " quarter " + quarter, () -> desk.quarter(1, quarter, what),
+                () -> plain.quarter(1, quarter, what));
+        }
+    }
+
+    private String premiumsText() {
+        StringBuilder text = new StringBuilder();
+        for (int i = 1 + random.nextInt(8); i > 0; i--) {
+            text.append("premium ").append(random.nextInt(3) == 0 ? "week " + random.nextInt(500) : kindText()).append(' ')
+                .append(any(50, 100, 1 + random.nextInt(300))).append(random.nextInt(3) == 0 ? " counts;" : ";");
+        }
+        return text.toString();
     }
 
     private void readFaulty(int seed) {
