@@ -107,7 +107,10 @@ public final class QuarterEdgesTest {
             PremiumHours desk = Desk.with("premium day 2 50;");
             desk.punch(0, COMES, 2, 1380, false);
             desk.punch(0, GOES, 3, 45, false);
-            quartersAre(desk, 284, 2, NONE, NONE, 0, 0, NONE, NONE, 0);
+            for (int what = 2; what < 4; what++) {
+                quartersAre(desk, 284, what, NONE, NONE, 0, 0, NONE, NONE, 0);
+            }
+            quartersAre(desk, 284, 4, 0, 0, 1, 1, 0, 0, 1);
         });
         edge(where, "of another SPAN of that DAY, too", () -> {
             PremiumHours desk = Desk.with("premium day 2 50;");
